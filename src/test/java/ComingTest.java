@@ -61,6 +61,11 @@ public final class ComingTest {
         due("inHours(0, 1, 0): nobody is relieved NOW", 1, x.inHours(0, 1, 0));
         due("nobody was relieved", 0, x.post(0, 2));
         due("no MEN", 0, Checks.told("p0 0;").inHours(9, 1, 2));
+        x = Checks.told("m1;m2;m60;m3;m4;m59;s1;");
+        due("inHours(0, 0, 2) of six MEN", 60, x.inHours(0, 0, 2));
+        Checks.type(x, "m1;m2;");
+        x.depot();
+        due("MEN who were told before are gone", 2, x.inHours(0, 0, 2));
         due("nothing told", 0, new PostRelief().inHours(60, 1, 1));
     }
 

@@ -155,6 +155,7 @@ public final class DepotTest {
         fault("m5;m-1;", 4);
         fault("m5;" + (char) 255, 3);
         fault("m5;" + (char) 0, 3);
+        fault("m5;m" + (char) 0 + ";", 4);
         fault("m5,", 2);
     }
 

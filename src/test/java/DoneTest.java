@@ -16,6 +16,7 @@ public final class DoneTest {
         relievesTheFreshest();
         relievesNobodyWhoCameBack();
         relievesBothWays();
+        relievesAllRound();
         relievesBehindOnHours();
         relievesRefused();
         undoTakesBackEach();
@@ -164,6 +165,32 @@ public final class DoneTest {
                 due(call + ": who stands at " + p, a[2 + p], x.post(p, 2));
             }
         }
+    }
+
+    private static void relievesAllRound() {
+        for (int from = 0; from < 3; from++) {
+            for (int way = 0; way <= 1; way++) {
+                PostRelief x = Checks.told("p0 0;p0 0;p0 0;m0;m0;m0;m1;m3;m5;o1;s1;");
+                for (int p = 0; p < 3; p++) {
+                    x.sends(p, p);
+                }
+                x.hour();
+                String call = "relieves(" + from + ", " + way + ") with enough MEN";
+                due(call, 3, x.relieves(from, way));
+                for (int i = 0; i < 3; i++) {
+                    int p = Math.floorMod(way == 1 ? from + i : from - i, 3);
+                    due(call + ": who comes to " + p, 3 + i, x.post(p, 2));
+                }
+            }
+        }
+        PostRelief x = Checks.told("p0 0;p0 0;p0 0;p0 0;p0 0;m0;m0;m0;m0;m0;m9;o1;");
+        for (int p = 0; p < 4; p++) {
+            x.sends(p, p);
+        }
+        x.hour();
+        due("five POSTS, from the last on by numbers", 2, x.relieves(4, 1));
+        x.undo();
+        due("five POSTS, from the first on the other way", 2, x.relieves(0, 0));
     }
 
     private static void relievesBehindOnHours() {

@@ -224,6 +224,16 @@ public final class SleepTest {
         x.sends(0, 0);
         Checks.hours(x, 9);
         due("fair() of one MAN", 0, x.fair());
+        x = Checks.told("p0 1;p0 2;p0 3;p0 4;p0 9;m0;m0;m0;m0;m0;m0;");
+        x.sends(5, 4);
+        x.sends(0, 0);
+        Checks.hours(x, 2);
+        due("fair(): the last MAN at the last POST", 18, x.fair());
+        x.sends(1, 1);
+        x.sends(2, 2);
+        x.sends(3, 3);
+        x.hour();
+        due("fair(): 27 less none", 27, x.fair());
     }
 
     private static void cowDue(int c, int d, int upper, int lower) {
