@@ -31,10 +31,11 @@ final class ComingEdges extends EdgeGroup {
 
     private void inHoursRefuses() {
         at(13, "the greatest DEBT (2; no MEN: 0). BAD.");
-        Run x = busy();
-        x.refuses(BAD, call("inHours", 1, 1, 1), 0, -1, 61, LEAST, MOST);
-        x.refuses(BAD, call("inHours", 1, 1, 1), 1, -1, 2, LEAST, MOST);
-        x.refuses(BAD, call("inHours", 1, 1, 1), 2, -1, 3, LEAST, MOST);
+        for (Run x : new Run[] {busy(), busyBehindBack()}) {
+            x.refuses(BAD, call("inHours", 1, 1, 1), 0, -1, 61, LEAST, MOST);
+            x.refuses(BAD, call("inHours", 1, 1, 1), 1, -1, 2, LEAST, MOST);
+            x.refuses(BAD, call("inHours", 1, 1, 1), 2, -1, 3, LEAST, MOST);
+        }
         fresh().refuses(BAD, call("inHours", 0, 0, 0), 0, -1, 61);
     }
 
@@ -154,6 +155,7 @@ final class ComingEdges extends EdgeGroup {
     private void roundRefuses() {
         at(14, "how much (1); NONE. BAD.");
         busy().refuses(BAD, call("round", 0), 0, -1, 2, LEAST, MOST);
+        busyBehindBack().refuses(BAD, call("round", 0), 0, -1, 2, LEAST, MOST);
         fresh().refuses(BAD, call("round", 0), 0, -1, 2, LEAST, MOST);
     }
 
@@ -201,10 +203,9 @@ final class ComingEdges extends EdgeGroup {
 
     private void rotaRefuses() {
         at(15, "the MAN of a POST; NONE. BAD.");
-        Run x = busy();
-        x.refuses(BAD, call("rota", 0), 0, -2, 3, 5, LEAST, MOST);
-        x = told("p0 0;p0 0;m0;");
-        x.refuses(BAD, call("rota", 0), 0, -2, 2, LEAST, MOST);
+        busy().refuses(BAD, call("rota", 0), 0, -2, 3, 5, LEAST, MOST);
+        busyBehindBack().refuses(BAD, call("rota", 0), 0, -2, 3, 5, LEAST, MOST);
+        told("p0 0;p0 0;m0;").refuses(BAD, call("rota", 0), 0, -2, 2, LEAST, MOST);
         fresh().refuses(BAD, call("rota", 0), 0, -2, 0, LEAST, MOST);
         told(ALL).refuses(BAD, call("rota", 0), 0, -2, 5);
     }

@@ -98,6 +98,7 @@ final class DepotEdges extends EdgeGroup {
         x.due(2, "count", 5);
         x.due(3, "type", 1);
         busy().refuses(BAD, call("type", 0), 0, -1, 256, LEAST, MOST);
+        busyBehindBack().refuses(BAD, call("type", 0), 0, -1, 256, LEAST, MOST);
     }
 
     private void textTakes200Letters() {
@@ -122,6 +123,8 @@ final class DepotEdges extends EdgeGroup {
         x.due(200, "type", 255);
         x.unchanged(FULL, "type", 0);
         x.unchanged(FULL, "type", 255);
+        busy().types(";" + " ".repeat(197)).unchanged(FULL, "type", 'x');
+        busyBehindBack().types(";" + " ".repeat(197)).unchanged(FULL, "type", 'x');
         x.refuses(BAD, call("type", 0), 0, -1, 256, LEAST, MOST);
     }
 
@@ -145,9 +148,10 @@ final class DepotEdges extends EdgeGroup {
 
     private void postRefuses() {
         at(5, "3 how long he STOOD (0 for nobody). BAD.");
-        Run x = busy();
-        x.refuses(BAD, call("post", 0, 0), 0, -1, 3, 5, LEAST, MOST);
-        x.refuses(BAD, call("post", 0, 0), 1, -1, 4, LEAST, MOST);
+        for (Run x : new Run[] {busy(), busyBehindBack()}) {
+            x.refuses(BAD, call("post", 0, 0), 0, -1, 3, 5, LEAST, MOST);
+            x.refuses(BAD, call("post", 0, 0), 1, -1, 4, LEAST, MOST);
+        }
         told(ALL).refuses(BAD, call("post", 0, 3), 0, -1, 5);
         told("m1;").refuses(BAD, call("post", 0, 3), 0, -1, 0);
     }
@@ -222,9 +226,10 @@ final class DepotEdges extends EdgeGroup {
 
     private void manRefuses() {
         at(6, "2 whether ASLEEP. BAD.");
-        Run x = busy();
-        x.refuses(BAD, call("man", 0, 0), 0, -1, 4, 6, LEAST, MOST);
-        x.refuses(BAD, call("man", 0, 0), 1, -1, 3, LEAST, MOST);
+        for (Run x : new Run[] {busy(), busyBehindBack()}) {
+            x.refuses(BAD, call("man", 0, 0), 0, -1, 4, 6, LEAST, MOST);
+            x.refuses(BAD, call("man", 0, 0), 1, -1, 3, LEAST, MOST);
+        }
         told(ALL).refuses(BAD, call("man", 0, 2), 0, -1, 6);
         told("p1 1;").refuses(BAD, call("man", 0, 2), 0, -1, 0);
     }
@@ -263,6 +268,7 @@ final class DepotEdges extends EdgeGroup {
     private void nowRefuses() {
         at(7, "4 how many may be UNDONE. BAD.");
         busy().refuses(BAD, call("now", 0), 0, -1, 5, LEAST, MOST);
+        busyBehindBack().refuses(BAD, call("now", 0), 0, -1, 5, LEAST, MOST);
         fresh().refuses(BAD, call("now", 0), 0, -1, 5);
     }
 
@@ -313,6 +319,7 @@ final class DepotEdges extends EdgeGroup {
     private void countRefuses() {
         at(30, "5 letters of THE TEXT. BAD.");
         busy().refuses(BAD, call("count", 0), 0, -1, 6, LEAST, MOST);
+        busyBehindBack().refuses(BAD, call("count", 0), 0, -1, 6, LEAST, MOST);
         fresh().refuses(BAD, call("count", 0), 0, -1, 6);
     }
 

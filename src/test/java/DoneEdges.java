@@ -41,11 +41,14 @@ final class DoneEdges extends EdgeGroup {
 
     private void sendsRefuses() {
         at(8, "BAD; STATE: somebody stands there, he stands elsewhere.");
-        Run x = busy();
-        x.refuses(BAD, call("sends", 1, 0), 0, -1, 4, 6, LEAST, MOST);
-        x.refuses(BAD, call("sends", 1, 0), 1, -1, 3, 5, LEAST, MOST);
-        x.refuses(BAD, call("sends", 0, 0), 0, -1, 4);
-        x.refuses(BAD, call("sends", 0, 0), 1, -1, 3);
+        for (Run x : new Run[] {busy(), busyBehindBack()}) {
+            x.refuses(BAD, call("sends", 1, 2), 0, -1, 4, 6, LEAST, MOST);
+            x.refuses(BAD, call("sends", 1, 2), 1, -1, 3, 5, LEAST, MOST);
+            x.refuses(BAD, call("sends", 2, 0), 0, -1, 4);
+            x.refuses(BAD, call("sends", 2, 0), 1, -1, 3);
+            x.unchanged(STATE, "sends", 1, 0);
+            x.unchanged(STATE, "sends", 2, 2);
+        }
         told("m1;").unchanged(BAD, "sends", 0, 0);
         told("p1 1;").unchanged(BAD, "sends", 0, 0);
         told(ALL).refuses(BAD, call("sends", 5, 4), 0, -1, 6);
@@ -81,12 +84,14 @@ final class DoneEdges extends EdgeGroup {
 
     private void callsRefuses() {
         at(9, "BAD; STATE: nobody stands there.");
-        Run x = busy();
-        x.refuses(BAD, call("calls", 0), 0, -1, 3, 5, LEAST, MOST);
+        for (Run x : new Run[] {busy(), busyBehindBack()}) {
+            x.refuses(BAD, call("calls", 0), 0, -1, 3, 5, LEAST, MOST);
+        }
+        busy().does("calls", 2).unchanged(STATE, "calls", 2);
+        busyBehindBack().unchanged(STATE, "calls", 2);
         told("m1;").unchanged(BAD, "calls", 0);
         told("p1 1;m1;").unchanged(STATE, "calls", 0);
-        x = posted(ALL, 5);
-        x.refuses(BAD, call("calls", 0), 0, -1, 5);
+        posted(ALL, 5).refuses(BAD, call("calls", 0), 0, -1, 5);
     }
 
     private void callsWhereNobodyStands() {
@@ -121,6 +126,8 @@ final class DoneEdges extends EdgeGroup {
         x.due(199, "now", 0);
         x.due(0, "hour");
         x.unchanged(STATE, "hour");
+        busy().hours(198).unchanged(STATE, "hour");
+        busy().hours(198).does("keep", 1).does("back", 1).unchanged(STATE, "hour");
     }
 
     private void hourOfNobody() {
@@ -224,9 +231,10 @@ final class DoneEdges extends EdgeGroup {
 
     private void relievesRefuses() {
         at(11, "BAD (way 0, 1).");
-        Run x = busy();
-        x.refuses(BAD, call("relieves", 0, 1), 0, -1, 3, 5, LEAST, MOST);
-        x.refuses(BAD, call("relieves", 0, 1), 1, -1, 2, LEAST, MOST);
+        for (Run x : new Run[] {busy(), busyBehindBack()}) {
+            x.refuses(BAD, call("relieves", 0, 1), 0, -1, 3, 5, LEAST, MOST);
+            x.refuses(BAD, call("relieves", 0, 1), 1, -1, 2, LEAST, MOST);
+        }
         told("m1;").unchanged(BAD, "relieves", 0, 1);
         posted(ALL, 5).refuses(BAD, call("relieves", 0, 0), 0, -1, 5);
     }

@@ -46,6 +46,11 @@ abstract class EdgeGroup {
         return x.does("found", 2, 3, 1).does("found", 3, 0, 0).does("rate", 3, 0).types("m6");
     }
 
+    /** The same, but nothing can be UNDONE, and nobody stands at POST 2. */
+    final Run busyBehindBack() {
+        return busy().does("back", 1);
+    }
+
     /** One MAN, alone, who stands there since HOUR 192; NOW is HOUR 200, and he has DEBT 38. */
     final Run atTheLastHour() {
         return told("p0 0;m0;o9;").hours(192).does("sends", 0, 0).hours(8);

@@ -35,12 +35,13 @@ final class KindEdges extends EdgeGroup {
 
     private void rateRefuses() {
         at(27, "RATE. NO: BAD.");
-        Run x = busy();
-        x.refuses(NO, call("rate", 0, 0), 0, -1, 6, LEAST, MOST);
-        x.refuses(NO, call("rate", 5, 0), 1, -1, 3, 5, LEAST, MOST);
+        for (Run x : new Run[] {busy(), busyBehindBack()}) {
+            x.refuses(NO, call("rate", 0, 0), 0, -1, 6, LEAST, MOST);
+            x.refuses(NO, call("rate", 5, 0), 1, -1, 3, 5, LEAST, MOST);
+            x.due(1011, "trace");
+        }
         told("m0;").unchanged(NO, "rate", 0, 0);
         told(ALL).refuses(NO, call("rate", 0, 0), 1, -1, 5);
-        x.due(1011, "trace");
     }
 
     private void rateBelowNothing() {
@@ -176,6 +177,7 @@ final class KindEdges extends EdgeGroup {
     private void keepRefuses() {
         at(28, "An IMAGE is kept: THE HOUR. BAD.");
         busy().refuses(BAD, call("keep", 0), 0, -1, 2, LEAST, MOST);
+        busyBehindBack().refuses(BAD, call("keep", 0), 0, -1, 2, LEAST, MOST);
         fresh().refuses(BAD, call("keep", 0), 0, -1, 2, LEAST, MOST);
     }
 
@@ -197,7 +199,7 @@ final class KindEdges extends EdgeGroup {
 
     private void backRefuses() {
         at(29, "BAD; STATE: none was kept.");
-        Run x = told("p0 0;m0;").hours(2);
+        Run x = posted("p0 3;p3 9;m0;m5;", 1).hours(2).does("found", 0, 0, 1).does("rate", 1, 0).types("m5");
         x.refuses(BAD, call("back", 0), 0, -1, 2, LEAST, MOST);
         x.unchanged(STATE, "back", 0);
         x.unchanged(STATE, "back", 1);
@@ -206,6 +208,7 @@ final class KindEdges extends EdgeGroup {
         x.due(2, "back", 1);
         x.unchanged(STATE, "back", 0);
         busy().refuses(BAD, call("back", 0), 0, -1, 2, LEAST, MOST);
+        busyBehindBack().refuses(BAD, call("back", 0), 0, -1, 2, LEAST, MOST);
         x = told("p0 0;m0;").does("keep", 0).hours(1);
         x.unchanged(STATE, "back", 1);
         x.due(0, "back", 0);

@@ -103,9 +103,10 @@ final class SightEdges extends EdgeGroup {
 
     private void unseenRefuses() {
         at(18, "IN UNSEEN. BAD.");
-        Run x = busy();
-        x.refuses(BAD, call("unseen", 0, 1), 0, -1, 3, 5, LEAST, MOST);
-        x.refuses(BAD, call("unseen", 0, 1), 1, 0, -1, 13, LEAST, MOST);
+        for (Run x : new Run[] {busy(), busyBehindBack()}) {
+            x.refuses(BAD, call("unseen", 0, 1), 0, -1, 3, 5, LEAST, MOST);
+            x.refuses(BAD, call("unseen", 0, 1), 1, 0, -1, 13, LEAST, MOST);
+        }
         told("m0;").unchanged(BAD, "unseen", 0, 1);
         told(ALL).refuses(BAD, call("unseen", 4, 12), 0, -1, 5);
     }
@@ -158,9 +159,10 @@ final class SightEdges extends EdgeGroup {
 
     private void oddsRefuses() {
         at(19, "in least terms. BAD.");
-        Run x = busy();
-        x.refuses(BAD, call("odds", 0, 0), 0, -1, 11, LEAST, MOST);
-        x.refuses(BAD, call("odds", 0, 0), 1, -1, 2, LEAST, MOST);
+        for (Run x : new Run[] {busy(), busyBehindBack()}) {
+            x.refuses(BAD, call("odds", 0, 0), 0, -1, 11, LEAST, MOST);
+            x.refuses(BAD, call("odds", 0, 0), 1, -1, 2, LEAST, MOST);
+        }
         fresh().refuses(BAD, call("odds", 0, 0), 0, -1, 11);
         fresh().refuses(BAD, call("odds", 0, 0), 1, -1, 2);
     }

@@ -36,12 +36,12 @@ final class SleepEdges extends EdgeGroup {
 
     private void creepRefuses() {
         at(20, "the POST (1); NONE. BAD.");
-        Run x = busy();
-        x.refuses(BAD, call("creep", 1, 0), 0, 0, -1, 25, LEAST, MOST);
-        x.refuses(BAD, call("creep", 1, 0), 1, -1, 2, LEAST, MOST);
+        for (Run x : new Run[] {busy(), busyBehindBack()}) {
+            x.refuses(BAD, call("creep", 1, 0), 0, 0, -1, 25, LEAST, MOST);
+            x.refuses(BAD, call("creep", 1, 0), 1, -1, 2, LEAST, MOST);
+        }
         fresh().refuses(BAD, call("creep", 1, 0), 0, 0, 25);
-        x = posted("p0 0;m60;", 1);
-        x.refuses(BAD, call("creep", 1, 0), 0, 0, 25);
+        posted("p0 0;m60;", 1).refuses(BAD, call("creep", 1, 0), 0, 0, 25);
     }
 
     private void creepDue(Run x, int n, int hours, int post) {
@@ -97,12 +97,15 @@ final class SleepEdges extends EdgeGroup {
 
     private void foundRefuses() {
         at(21, "FOUND: how much there is. BAD; FULL.");
-        Run x = busy();
-        x.refuses(BAD, call("found", 0, 0, 0), 0, -1, 4, 6, LEAST, MOST);
-        x.refuses(BAD, call("found", 0, 0, 0), 1, -1, 25, LEAST, MOST);
-        x.refuses(BAD, call("found", 0, 0, 0), 2, -1, 2, LEAST, MOST);
+        for (Run x : new Run[] {busy(), busyBehindBack()}) {
+            x.refuses(BAD, call("found", 0, 0, 0), 0, -1, 4, 6, LEAST, MOST);
+            x.refuses(BAD, call("found", 0, 0, 0), 1, -1, 25, LEAST, MOST);
+            x.refuses(BAD, call("found", 0, 0, 0), 2, -1, 2, LEAST, MOST);
+            x.does(4, call("found", 2, 2, 0));
+            x.unchanged(FULL, "found", 2, 0, 1);
+        }
         told("p0 0;").unchanged(BAD, "found", 0, 0, 0);
-        x = told(ALL).does(6, call("found", 5, 0, 0));
+        Run x = told(ALL).does(6, call("found", 5, 0, 0));
         x.refuses(BAD, call("found", 0, 0, 0), 0, -1, 6);
         x.refuses(BAD, call("found", 0, 0, 0), 1, -1, 25);
         x.refuses(BAD, call("found", 0, 0, 0), 2, -1, 2);
@@ -172,9 +175,10 @@ final class SleepEdges extends EdgeGroup {
 
     private void fitsRefuses() {
         at(23, "the least (1; NONE). BAD.");
-        Run x = busy();
-        x.refuses(BAD, call("fits", 0, 0), 0, -1, 4, 6, LEAST, MOST);
-        x.refuses(BAD, call("fits", 0, 0), 1, -1, 2, LEAST, MOST);
+        for (Run x : new Run[] {busy(), busyBehindBack()}) {
+            x.refuses(BAD, call("fits", 0, 0), 0, -1, 4, 6, LEAST, MOST);
+            x.refuses(BAD, call("fits", 0, 0), 1, -1, 2, LEAST, MOST);
+        }
         told("p0 0;").unchanged(BAD, "fits", 0, 0);
         told(ALL).refuses(BAD, call("fits", 0, 0), 0, -1, 6);
     }
@@ -255,9 +259,10 @@ final class SleepEdges extends EdgeGroup {
 
     private void hadRefuses() {
         at(24, "HAD: HOURS in all. BAD.");
-        Run x = busy();
-        x.refuses(BAD, call("had", 0, 0), 0, -1, 4, 6, LEAST, MOST);
-        x.refuses(BAD, call("had", 0, 0), 1, -1, 3, 5, LEAST, MOST);
+        for (Run x : new Run[] {busy(), busyBehindBack()}) {
+            x.refuses(BAD, call("had", 0, 0), 0, -1, 4, 6, LEAST, MOST);
+            x.refuses(BAD, call("had", 0, 0), 1, -1, 3, 5, LEAST, MOST);
+        }
         told("m0;").unchanged(BAD, "had", 0, 0);
         told("p0 0;").unchanged(BAD, "had", 0, 0);
         told(ALL).refuses(BAD, call("had", 5, 4), 0, -1, 6);
@@ -316,7 +321,7 @@ final class SleepEdges extends EdgeGroup {
 
     private void cowRefuses() {
         at(26, "in least terms. BAD.");
-        for (Run x : new Run[] {busy(), fresh()}) {
+        for (Run x : new Run[] {busy(), busyBehindBack(), fresh()}) {
             x.refuses(BAD, call("cow", 0, 0, 0), 0, -1, 10, LEAST, MOST);
             x.refuses(BAD, call("cow", 0, 0, 0), 1, -1, 10, LEAST, MOST);
             x.refuses(BAD, call("cow", 0, 0, 0), 2, -1, 2, LEAST, MOST);
