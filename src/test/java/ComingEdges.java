@@ -1,7 +1,7 @@
 /** Promises 13 to 15: the edges of what comes. */
-final class ComingEdges extends EdgeGroup {
-    ComingEdges(Edges edges) {
-        super(edges);
+final class ComingEdges extends SentenceGroup {
+    ComingEdges(Sentences sentences) {
+        super(sentences);
     }
 
     @Override
@@ -243,7 +243,8 @@ final class ComingEdges extends EdgeGroup {
     }
 
     private void rotaOfUnlikeMen() {
-        at(15, "of all ways to SEND MEN NOW to all POSTS (one each, unlike; who stands there now comes back first)");
+        at(15, "ROTA: of all ways to SEND MEN NOW to all POSTS (one each, unlike; who stands there now comes back first)"
+            + " that by which");
         Run x = told("p0 0;p0 0;m0;m60;o1;");
         x.dueFrom(-1, new int[] {60, 0, 1}, "rota");
         x = told("p0 9;p0 0;m20;m10;m30;o1;").does("sends", 2, 0).does("sends", 1, 1);

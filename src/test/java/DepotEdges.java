@@ -1,7 +1,7 @@
 /** Promises 1 to 7 and 30: the edges of the text, of what it tells, and of what stands there. */
-final class DepotEdges extends EdgeGroup {
-    DepotEdges(Edges edges) {
-        super(edges);
+final class DepotEdges extends SentenceGroup {
+    DepotEdges(Sentences sentences) {
+        super(sentences);
     }
 
     @Override
@@ -287,7 +287,7 @@ final class DepotEdges extends EdgeGroup {
     }
 
     private void nowWatchesFromAnotherPostOnly() {
-        at(7, "POSTS (bits) that some MAN who stands and is not ASLEEP SEES, from another POST,"
+        at(7, "WATCHED: POSTS (bits) that some MAN who stands and is not ASLEEP SEES, from another POST,"
             + " or where such a one stands");
         Run x = told("p31 0;p2 0;p0 0;m40;m39;");
         x.due(0, "now", 3);

@@ -1,9 +1,9 @@
 import java.util.List;
 
 /** Promises 8 to 12: the edges of what is done, and of what is undone. */
-final class DoneEdges extends EdgeGroup {
-    DoneEdges(Edges edges) {
-        super(edges);
+final class DoneEdges extends SentenceGroup {
+    DoneEdges(Sentences sentences) {
+        super(sentences);
     }
 
     @Override
@@ -160,7 +160,7 @@ final class DoneEdges extends EdgeGroup {
     }
 
     private void hourByAThirdOfCold() {
-        at(10, "a third (cut) of COLD of the POST");
+        at(10, "and a third (cut) of COLD of the POST");
         for (int cold = 0; cold <= 9; cold++) {
             Run x = posted("p0 " + cold + ";m0;", 1).hours(1);
             x.due(new int[] {4, 4, 4, 5, 5, 5, 6, 6, 6, 7}[cold], "man", 0, 0);
@@ -241,7 +241,8 @@ final class DoneEdges extends EdgeGroup {
 
     /** From each POST, each way: the next free MAN is more in debt, so who stands where tells the way. */
     private void relievesAllRound() {
-        at(11, "POST by POST, from one on, the one way round (by numbers, way 1) or the other one (way 0)");
+        at(11, "RELIEVED: POST by POST, from one on, the one way round (by numbers, way 1) or the other one (way 0),"
+            + " at each");
         String men = "m0;m0;m0;m0;m0;m0;";
         for (int posts = 1; posts <= 5; posts++) {
             StringBuilder free = new StringBuilder();
@@ -420,7 +421,7 @@ final class DoneEdges extends EdgeGroup {
     }
 
     private void undoKnowsNothingRefused() {
-        at(12, "the latest sends(), calls(), hour(), relieves() that was not refused");
+        at(12, "UNDONE: the latest sends(), calls(), hour(), relieves() that was not refused");
         Run x = posted("p0 0;p0 0;m0;m0;", 1);
         x.does("sends", 0, 1).does("sends", 1, 0).does("sends", 9, 9).does("calls", 1).does("calls", 9);
         x.does("relieves", 9, 1).does("relieves", 0, 9).does("rate", 9, 9).does("back", 0).does("type", 'x');

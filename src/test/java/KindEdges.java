@@ -1,9 +1,9 @@
 import java.util.List;
 
 /** Promises 27 to 29 and 31: the edges of kinds, images and the trace; and how long an object is used. */
-final class KindEdges extends EdgeGroup {
-    KindEdges(Edges edges) {
-        super(edges);
+final class KindEdges extends SentenceGroup {
+    KindEdges(Sentences sentences) {
+        super(sentences);
     }
 
     @Override
@@ -45,7 +45,7 @@ final class KindEdges extends EdgeGroup {
     }
 
     private void rateBelowNothing() {
-        at(27, "`NO = -1000000`: What none is, where a number may be below 0.");
+        at(27, "The constants: `NO = -1000000`: What none is, where a number may be below 0.");
         for (int debt : new int[] {1, 2, 3, 9, 60}) {
             Run x = posted("p0 0;m" + debt + ";", 1);
             x.due(-debt, "rate", 2, 0);
@@ -120,7 +120,8 @@ final class KindEdges extends EdgeGroup {
     }
 
     private void rateOfEveryKind() {
-        at(27, "0 POST; 1 GATE, 2 PUMP, 5 TOWER (each under POST); 3 LANE (under GATE); 4 YARD (under PUMP)");
+        at(27, "KINDS of POSTS are over one another: 0 POST; 1 GATE, 2 PUMP, 5 TOWER (each under POST); 3 LANE (under"
+            + " GATE); 4 YARD (under PUMP)");
         Run x = told("p0 0;p0 0;p31 7;m0;m40;").does("sends", 1, 2).hours(2);
         int[] rates = {7, 9, 7 - 52, 18, 7 - 52 + 2, 9};
         for (int kind = 0; kind <= 5; kind++) {

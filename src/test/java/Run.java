@@ -7,17 +7,17 @@ final class Run {
     /** What later calls answer is free. */
     private static final int MOST_CALLS = 512;
 
-    private final Edges edges;
+    private final Sentences sentences;
     private final PostRelief object = new PostRelief();
     private final List<Call> past = new ArrayList<>();
 
-    Run(Edges edges) {
-        this.edges = edges;
+    Run(Sentences sentences) {
+        this.sentences = sentences;
     }
 
     /** Brings a like object to where this one stands. */
     private Run again() {
-        Run like = new Run(edges);
+        Run like = new Run(sentences);
         for (Call call : past) {
             like.answer(call);
         }
@@ -70,7 +70,7 @@ final class Run {
 
     void due(long want, String name, int... numbers) {
         Call call = new Call(name, numbers);
-        edges.due(call.toString(), want, answer(call));
+        sentences.due(call.toString(), want, answer(call));
     }
 
     /** The answers of a call whose last number runs from a least one on. */
@@ -99,7 +99,7 @@ final class Run {
             Run second = again();
             some.forEach(first::answer);
             others.forEach(second::answer);
-            edges.same(what + ", by " + probe, probe.asks(first), probe.asks(second));
+            sentences.same(what + ", by " + probe, probe.asks(first), probe.asks(second));
         }
     }
 

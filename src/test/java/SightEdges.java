@@ -1,7 +1,7 @@
 /** Promises 16 to 19: the edges of who sees whom. */
-final class SightEdges extends EdgeGroup {
-    SightEdges(Edges edges) {
-        super(edges);
+final class SightEdges extends SentenceGroup {
+    SightEdges(Sentences sentences) {
+        super(sentences);
     }
 
     @Override
@@ -37,7 +37,7 @@ final class SightEdges extends EdgeGroup {
     }
 
     private void leaveTheMost() {
-        at(16, "the most POSTS that could be left out, so that each POST is SEEN by one that is not,"
+        at(16, "LEAVE: the most POSTS that could be left out, so that each POST is SEEN by one that is not,"
             + " or is not left out");
         told("p2 0;p0 0;").due(2, "leave");
         told("p0 0;p1 0;").due(1, "leave");

@@ -1,7 +1,7 @@
 /** Promises 20 to 26: the edges of who sleeps. */
-final class SleepEdges extends EdgeGroup {
-    SleepEdges(Edges edges) {
-        super(edges);
+final class SleepEdges extends SentenceGroup {
+    SleepEdges(Sentences sentences) {
+        super(sentences);
     }
 
     @Override
@@ -298,7 +298,7 @@ final class SleepEdges extends EdgeGroup {
     }
 
     private void fairOfTheGreatestAndTheLeast() {
-        at(25, "each as often as a MAN HAD it, together: the greatest of any MAN less the least one");
+        at(25, "FAIR: COLD of POSTS, each as often as a MAN HAD it, together: the greatest of any MAN less the least one");
         Run x = posted("p0 9;m0;", 1).hours(200);
         x.due(0, "fair");
         x = posted("p0 9;m0;m0;", 1).hours(200);
@@ -346,7 +346,8 @@ final class SleepEdges extends EdgeGroup {
     }
 
     private void cowIsCalledAt() {
-        at(26, "calls at a man always, at a cow by d of 10: what came being called at, that it was a cow: a fraction");
+        at(26, "a MAN who is not ASLEEP calls at a man always, at a cow by d of 10: what came being called at, that it"
+            + " was a cow: a fraction");
         for (int d = 0; d <= 9; d++) {
             cowDue(0, d, 0, 1);
         }

@@ -1,7 +1,7 @@
 /** Promise 4: the edges of what a text may tell, and of where its fault is. */
-final class TextEdges extends EdgeGroup {
-    TextEdges(Edges edges) {
-        super(edges);
+final class TextEdges extends SentenceGroup {
+    TextEdges(Sentences sentences) {
+        super(sentences);
     }
 
     @Override

@@ -9,24 +9,18 @@ import java.util.regex.Matcher;
 import java.util.regex.Pattern;
 
 /**
- * Which words of the document the tests of its edges stand for. Every test names a promise and words that the
- * document has; at the end, words of the document that tell an edge and that no test names are told, too.
+ * Which words of the document the tests stand for. Every test names a promise and words that the document has;
+ * at the end, words that stand under "Terms" or under a promise and that no test names are told, too.
  */
-final class Edges {
+final class Sentences {
     private static final Path DOCUMENT = Path.of("../shared/DOC.md");
     private static final int PROMISES = 31;
     /** The parts of the document that are no promise's own. */
     private static final int USE = -1;
     private static final int TERMS = 0;
-    /** Words by which the document tells an edge: how small, how large, empty, full, round again, refused. */
-    private static final Pattern EDGE = Pattern.compile(
-        "\\d+ \\.\\. \\d+|\\d+ to \\d+|at most|at first|\\bfirst\\b|\\b(BAD|STATE|FULL|NONE|NO)\\b|nobody|nowhere"
-        + "|\\b[Nn]one\\b|\\bno (MEN|POSTS)|\\btoo\\b|early|or more|\\blost\\b|lowest|\\bleast\\b|greatest|\\bmost\\b"
-        + "|again|beyond|above 60|any other|any number|any of|\\bempty\\b|ahead of others|only between|[Rr]efused"
-        + "|fewer|\\bonce\\b|gone|[Nn]othing|\\(cut\\)|way round|by 12|512|sixth|seventh|unlike|\\bstays\\b"
-        + "|MEN 0|POSTS 0|itself|\\bin all\\b|\\banew\\b|elsewhere|so far|came not back|not asked|not left out");
+    private static final Pattern WORD = Pattern.compile("[A-Za-z0-9]+");
 
-    private final Checks checks = new Checks("EdgesTest");
+    private final Checks checks = new Checks("SentencesTest");
     private final Map<Integer, String> parts = new TreeMap<>();
     private final Map<Integer, BitSet> named = new TreeMap<>();
     private final BitSet promises = new BitSet();
@@ -34,20 +28,22 @@ final class Edges {
     private int tests;
 
     /** Where the document is not at hand, what it promises is tested all the same, but no words are looked up. */
-    Edges() throws IOException {
+    Sentences() throws IOException {
         if (Files.exists(DOCUMENT)) {
             split(Files.readString(DOCUMENT).replace("```text", " ").replace("```", " ").replaceAll("\\s+", " "));
         } else {
-            System.out.println("EdgesTest: there is no " + DOCUMENT + ": its words are not looked up");
+            System.out.println("SentencesTest: there is no " + DOCUMENT + ": its words are not looked up");
         }
     }
 
     private void split(String all) {
-        parts.put(USE, between(all, "posts by kinds; images.", "## The public face"));
-        parts.put(TERMS, between(all, "## Terms", "## Promise 1:"));
+        String told = all.replaceAll("======== \\d", "");
+        parts.put(USE, between(told, "posts by kinds; images.", "## The public face"));
+        parts.put(TERMS, between(told, "## Terms", "Ahead of the calls"));
         for (int n = 1; n <= PROMISES; n++) {
             String end = n < PROMISES ? "## Promise " + (n + 1) + ":" : "## Not promised";
-            parts.put(n, between(all, "## Promise " + n + ":", end));
+            // the call's name and face end with a backtick and a colon; what follows is promised
+            parts.put(n, between(told, "## Promise " + n + ":", end).replaceFirst("^.*?`: ", ""));
         }
         parts.keySet().forEach(part -> named.put(part, new BitSet()));
     }
@@ -94,19 +90,19 @@ final class Edges {
     void end() {
         where = "";
         for (int n = 1; n <= PROMISES; n++) {
-            checks.holds("Promise " + n + " has a test of its edges", promises.get(n));
+            checks.holds("Promise " + n + " has a test", promises.get(n));
         }
-        parts.forEach(this::everyEdgeIsNamed);
-        System.out.println(tests + " tests of edges");
+        parts.forEach(this::everyWordIsNamed);
+        System.out.println(tests + " tests of sentences");
         checks.end();
     }
 
-    private void everyEdgeIsNamed(int part, String words) {
-        Matcher edge = EDGE.matcher(words);
-        while (edge.find()) {
-            int at = edge.start();
+    private void everyWordIsNamed(int part, String words) {
+        Matcher word = WORD.matcher(words);
+        while (word.find()) {
+            int at = word.start();
             String around = words.substring(Math.max(0, at - 40), Math.min(words.length(), at + 40));
-            checks.holds("part " + part + ": a test names \"" + edge.group() + "\" in \"" + around + "\"",
+            checks.holds("part " + part + ": a test names \"" + word.group() + "\" in \"" + around + "\"",
                 named.get(part).get(at));
         }
     }

@@ -1,5 +1,5 @@
-/** Tests of edges: each method is one, and begins by naming the promise and the document's words. */
-abstract class EdgeGroup {
+/** Tests of sentences: each method is one, and begins by naming the promise and the words of the document. */
+abstract class SentenceGroup {
     static final int BAD = -1;
     static final int STATE = -2;
     static final int FULL = -3;
@@ -10,20 +10,20 @@ abstract class EdgeGroup {
     /** All that may be told: five POSTS, six MEN, ON and STOVE. */
     static final String ALL = "p31 9;p31 9;p31 9;p31 9;p31 9;m60;m60;m60;m60;m60;m60;o9;s9;";
 
-    private final Edges edges;
+    private final Sentences sentences;
 
-    EdgeGroup(Edges edges) {
-        this.edges = edges;
+    SentenceGroup(Sentences sentences) {
+        this.sentences = sentences;
     }
 
     abstract void all();
 
     final void at(int promise, String words) {
-        edges.sentence(promise, words);
+        sentences.sentence(promise, words);
     }
 
     final Run fresh() {
-        return new Run(edges);
+        return new Run(sentences);
     }
 
     final Run told(String text) {
